@@ -130,9 +130,6 @@ public final class BallCourt {
     }
 
     public int open(int i) {
-        if (i < -1) {
-            return NONE;
-        }
         int seen = 0;
         for (int kind = 0; kind < book.numbers; kind++) {
             if (book.hasKind(kind) && !laws.covers(kind)) {
@@ -369,7 +366,7 @@ public final class BallCourt {
     }
 
     private static boolean hasBit(int bits, int number) {
-        return (bits >> number & 1) != 0;
+        return ((bits >> number) & 1) != 0;
     }
 
     private static boolean isRuling(int ruling) {
@@ -548,7 +545,7 @@ public final class BallCourt {
         }
 
         int repealedIfMended(int line) {
-            return repealed ^ 1 << line;
+            return repealed ^ (1 << line);
         }
 
         /** The lines that hold for a kind, if just these are repealed. */

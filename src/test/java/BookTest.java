@@ -74,6 +74,8 @@ public final class BookTest {
         for (int fact = 0; fact < 4; fact++) {
             x.tell(0, 0, fact, 0);
         }
+        x.tell(0, 1, 3, 1);
+        x.tell(0, 0, 3, 2);
         x.rule(0, 3);
         due.is("make(0)", x.make(0), 0);
         due.is("facts(0)", x.facts(0), BallCourt.OUTSIDE);
@@ -146,6 +148,13 @@ public final class BookTest {
         x.barred(1, 0, false);
         due.is("told(1), back to two", x.told(1), 10);
         due.is("law(3, 1)", x.law(3, 1), 1);
+        x.facts(4);
+        x.barred(0, 1, true);
+        x.barred(0, 2, true);
+        x.barred(3, 0, true);
+        due.is("told(1), one fact against three", x.told(1), 9);
+        due.is("barred(0, 1, true)", x.barred(0, 1, true), 1);
+        due.is("barred(2, 0, true)", x.barred(2, 0, true), 1);
     }
 
     private static void lines() {
@@ -310,6 +319,10 @@ public final class BookTest {
         x.repeal(4, true);
         due.is("about(1, 5)", x.about(1, 5), 2);
         due.is("about(3, 5)", x.about(3, 5), 8 + 16);
+        x.repeal(3, false);
+        x.except(1, 0);
+        x.except(5, 0);
+        due.is("about(0, 5), several ways on", x.about(0, 5), 1 + 2 + 4 + 8 + 16 + 64);
     }
 
     private static void holds() {

@@ -91,6 +91,13 @@ public final class GameTest {
         stands(x, 19, 19, 0, 0, BallCourt.NONE);
         stands(x, 20, 20, 0, 0, 0);
         stands(x, 30, 20, 0, 0, 0);
+        due.promise(25);
+        due.is("appeal(19, 0), of thirty", x.appeal(19, 0), 19);
+        due.is("appeal(20, 0), of thirty", x.appeal(20, 0), BallCourt.NONE);
+        due.is("appeal(29, 3), of thirty", x.appeal(29, 3), BallCourt.NONE);
+        x.goal(5);
+        due.is("appeal(4, 2), the winner's hoop", x.appeal(4, 2), 4);
+        due.is("appeal(5, 2), behind it", x.appeal(5, 2), BallCourt.NONE);
     }
 
     private static void scoreWorkedAnew() {

@@ -166,6 +166,12 @@ public final class MomentTest {
         for (int m : new int[] {-1, 1, LEAST, GREATEST}) {
             due.is("proof(" + m + ", 0)", x.proof(m, 0), BallCourt.UNKNOWN);
         }
+        x.facts(7);
+        x.line(127, 0, 4);
+        x.moment();
+        due.is("proof(0, 4), one of 128", x.proof(0, 4), 1);
+        due.is("proof(0, 0), all others", x.proof(0, 0), 1);
+        due.is("verdict(0), not all", x.verdict(0), 0);
     }
 
     private static void proves(BallCourt x, int[] want) {
@@ -261,6 +267,16 @@ public final class MomentTest {
         due.is("verdict(0), in doubt again", x.verdict(0), 0);
         x.line(0, 0, 1);
         due.is("verdict(0), the same by two lines", x.verdict(0), 1);
+        x.facts(1);
+        x.line(1, 0, 2);
+        x.moment();
+        due.is("verdict(0), kind 0 play on", x.verdict(0), 0);
+        x.line(0, 0, 2);
+        due.is("verdict(0), kind 0 too", x.verdict(0), 2);
+        x.repeal(0, true);
+        x.repeal(1, true);
+        x.line(0, 1, 2);
+        due.is("verdict(0), kind 1 play on", x.verdict(0), 0);
         for (int m : new int[] {-1, 1, 30, LEAST, GREATEST}) {
             due.is("verdict(" + m + ")", x.verdict(m), BallCourt.UNKNOWN);
         }
@@ -420,6 +436,17 @@ public final class MomentTest {
         x.rule(3, 4);
         due.is("make(3), as an umpire ruled", x.make(3), 4);
         due.is("turned(), against the law as it is made", x.turned(), 16);
+        for (int k = 5; k < 12; k++) {
+            x.make(3);
+        }
+        due.is("turned(), of twelve", x.turned(), 0xff0);
+        x.repeal(2, true);
+        x.line(4, 0, 3);
+        due.is("turned(), of twelve", x.turned(), 0xff8);
+        x.facts(3);
+        due.is("turned(), no cases", x.turned(), 0);
+        x.line(0, 0, 4);
+        due.is("turned(), no cases", x.turned(), 0);
     }
 
     private static void mend() {
@@ -499,5 +526,12 @@ public final class MomentTest {
         due.is("mend(1, 2), if it came back", x.mend(1, 2), 1);
         due.is("verdict(2), mend changes nothing", x.verdict(2), 0);
         due.is("told(3)", x.told(3), 4);
+        x.facts(7);
+        x.line(0, 0, 1);
+        for (int m = 0; m < 30; m++) {
+            x.moment();
+        }
+        due.is("mend(0, 0), all kinds", x.mend(0, 0), 128);
+        due.is("mend(0, 2), all moments", x.mend(0, 2), 30);
     }
 }
