@@ -2,6 +2,7 @@
 final class Due {
     private final String test;
     private int promise;
+    private String sentence = "";
     private int calls;
     private int wrong;
 
@@ -12,13 +13,21 @@ final class Due {
     /** The promise that the checks from here on are about. */
     void promise(int number) {
         promise = number;
+        sentence = "";
+    }
+
+    /** The same, and the sentence of the document that they hold the class to. */
+    void sentence(int number, String ofTheDocument) {
+        promise = number;
+        sentence = " (\"" + ofTheDocument + "\")";
     }
 
     void is(String call, int got, int want) {
         calls++;
         if (got != want) {
             wrong++;
-            System.out.println(test + ", promise " + promise + ": " + call + " answered " + got + ", due is " + want);
+            System.out.println(test + ", promise " + promise + sentence + ": " + call + " answered " + got
+                + ", due is " + want);
         }
     }
 

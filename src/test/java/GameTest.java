@@ -16,16 +16,6 @@ public final class GameTest {
         due.end();
     }
 
-    /** A court on which these moments are played, each as an umpire ruled. */
-    private static BallCourt ruled(int goal, int... rulings) {
-        BallCourt x = new BallCourt();
-        x.goal(goal);
-        for (int ruling : rulings) {
-            x.rule(x.moment(), ruling);
-        }
-        return x;
-    }
-
     private static void stands(BallCourt x, int behind, int hoops0, int hoops1, int striker, int winner) {
         due.is("score(" + behind + ", 0)", x.score(behind, 0), hoops0);
         due.is("score(" + behind + ", 1)", x.score(behind, 1), hoops1);
@@ -51,7 +41,7 @@ public final class GameTest {
     private static void score() {
         due.promise(24);
         int none = BallCourt.NONE;
-        BallCourt x = ruled(3, 0, 1, 4, 2, 1, 2, 0, 1, 1);
+        BallCourt x = Courts.ruled(3, 0, 1, 4, 2, 1, 2, 0, 1, 1);
         stands(x, 0, 0, 0, 0, none);
         stands(x, 1, 0, 0, 0, none);
         stands(x, 2, 1, 0, 0, none);
@@ -67,7 +57,7 @@ public final class GameTest {
     private static void scoreOfFaults() {
         due.promise(24);
         int none = BallCourt.NONE;
-        BallCourt x = ruled(2, 3, 3, 3);
+        BallCourt x = Courts.ruled(2, 3, 3, 3);
         stands(x, 1, 0, 1, 1, none);
         stands(x, 2, 1, 1, 0, none);
         stands(x, 3, 1, 2, 1, 1);
@@ -77,17 +67,17 @@ public final class GameTest {
 
     private static void scoreBehindTheEnd() {
         due.promise(24);
-        BallCourt x = ruled(2, 1, 1, 1, 3, 2, 3);
+        BallCourt x = Courts.ruled(2, 1, 1, 1, 3, 2, 3);
         for (int behind = 2; behind <= 6; behind++) {
             stands(x, behind, 2, 0, 0, 0);
         }
-        x = ruled(1, 3, 3, 1, 2);
+        x = Courts.ruled(1, 3, 3, 1, 2);
         for (int behind = 1; behind <= 4; behind++) {
             stands(x, behind, 0, 1, 1, 1);
         }
         int[] hoops = new int[30];
         java.util.Arrays.fill(hoops, 1);
-        x = ruled(20, hoops);
+        x = Courts.ruled(20, hoops);
         stands(x, 19, 19, 0, 0, BallCourt.NONE);
         stands(x, 20, 20, 0, 0, 0);
         stands(x, 30, 20, 0, 0, 0);
@@ -123,7 +113,7 @@ public final class GameTest {
 
     private static void scoreRefused() {
         due.promise(24);
-        BallCourt x = ruled(5, 1, 1);
+        BallCourt x = Courts.ruled(5, 1, 1);
         for (int behind : new int[] {-1, 3, 30, LEAST, GREATEST}) {
             due.is("score(" + behind + ", 0)", x.score(behind, 0), BallCourt.OUTSIDE);
         }
@@ -135,7 +125,7 @@ public final class GameTest {
 
     private static void appeal() {
         due.promise(25);
-        BallCourt x = ruled(2, 0, 2, 4, 1, 1, 3);
+        BallCourt x = Courts.ruled(2, 0, 2, 4, 1, 1, 3);
         // For each moment and ruling: whether something would be other behind it.
         String[] other = {"01110", "11011", "01110", "10111", "10111", "00000"};
         for (int m = 0; m < 6; m++) {
@@ -167,7 +157,7 @@ public final class GameTest {
 
     private static void appealRefused() {
         due.promise(25);
-        BallCourt x = ruled(5, 1);
+        BallCourt x = Courts.ruled(5, 1);
         for (int m : new int[] {-1, 1, 30, LEAST, GREATEST}) {
             due.is("appeal(" + m + ", 0)", x.appeal(m, 0), BallCourt.UNKNOWN);
             due.is("appeal(" + m + ", 9)", x.appeal(m, 9), BallCourt.UNKNOWN);

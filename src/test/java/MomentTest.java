@@ -25,15 +25,6 @@ public final class MomentTest {
         due.end();
     }
 
-    /** A moment of which the first witness tells all facts, as they are in a kind. */
-    private static int momentOf(BallCourt x, int kind) {
-        int m = x.moment();
-        for (int fact = 0; fact < x.told(0); fact++) {
-            x.tell(m, 0, fact, kind >> fact & 1);
-        }
-        return m;
-    }
-
     private static void moment() {
         due.promise(12);
         BallCourt x = new BallCourt();
@@ -187,9 +178,9 @@ public final class MomentTest {
         x.line(1, 2, 1);
         x.line(2, 0, 2);
         x.line(0, 4, 3);
-        momentOf(x, 1);
-        momentOf(x, 2);
-        momentOf(x, 4);
+        Courts.momentOf(x, 1);
+        Courts.momentOf(x, 2);
+        Courts.momentOf(x, 4);
         due.is("binds(0), no cases", x.binds(0), BallCourt.NONE);
         due.is("make(1)", x.make(1), 0);
         due.is("make(0)", x.make(0), 1);
@@ -221,14 +212,14 @@ public final class MomentTest {
     private static void bindsAll() {
         BallCourt x = new BallCourt();
         x.line(0, 0, 2);
-        momentOf(x, 9);
+        Courts.momentOf(x, 9);
         due.is("make(0), a case that names nothing", x.make(0), 0);
         due.is("ofCase(0, 2)", x.ofCase(0, 2), 0);
         x.moment();
         due.is("binds(1), nothing known, nothing named", x.binds(1), 0);
         x.facts(2);
-        momentOf(x, 3);
-        momentOf(x, 3);
+        Courts.momentOf(x, 3);
+        Courts.momentOf(x, 3);
         x.make(0);
         x.rule(1, 4);
         x.make(1);
@@ -239,7 +230,7 @@ public final class MomentTest {
         due.promise(16);
         BallCourt x = new BallCourt();
         x.line(1, 0, 2);
-        momentOf(x, 3);
+        Courts.momentOf(x, 3);
         x.make(0);
         x.barred(0, 1, true);
         due.is("known(0, 3)", x.known(0, 3), 0);
@@ -287,7 +278,7 @@ public final class MomentTest {
         due.promise(17);
         BallCourt x = new BallCourt();
         x.line(1, 0, 1);
-        momentOf(x, 3);
+        Courts.momentOf(x, 3);
         x.rule(0, 2);
         due.is("make(0), as the umpire ruled", x.make(0), 0);
         x.rule(0, 4);
@@ -339,8 +330,8 @@ public final class MomentTest {
         x.line(1, 2, 2);
         x.line(4, 0, 3);
         x.except(1, 0);
-        momentOf(x, 1);
-        momentOf(x, 5);
+        Courts.momentOf(x, 1);
+        Courts.momentOf(x, 5);
         due.is("make(0)", x.make(0), 0);
         isCase(x, 0, 1, 2, 7);
         due.is("make(1), not covered", x.make(1), 1);
@@ -373,7 +364,7 @@ public final class MomentTest {
         }
         x.moment();
         due.is("make(0), all in doubt", x.make(0), BallCourt.STATE);
-        momentOf(x, 6);
+        Courts.momentOf(x, 6);
         x.tell(1, 1, 2, 0);
         due.is("make(1), one in doubt", x.make(1), BallCourt.STATE);
         x.tell(1, 1, 2, 1);
@@ -399,7 +390,7 @@ public final class MomentTest {
         due.is("ofCase(0, 9)", x.ofCase(0, 9), BallCourt.UNKNOWN);
         x.facts(7);
         x.line(64, 1, 4);
-        momentOf(x, 66);
+        Courts.momentOf(x, 66);
         x.make(0);
         isCase(x, 0, 66, 4, 65);
         for (int what : new int[] {-1, 3, LEAST, GREATEST}) {
@@ -417,10 +408,10 @@ public final class MomentTest {
         BallCourt x = new BallCourt();
         x.line(1, 0, 1);
         x.line(2, 0, 2);
-        momentOf(x, 1);
-        momentOf(x, 3);
-        momentOf(x, 2);
-        momentOf(x, 4);
+        Courts.momentOf(x, 1);
+        Courts.momentOf(x, 3);
+        Courts.momentOf(x, 2);
+        Courts.momentOf(x, 4);
         for (int m = 0; m < 4; m++) {
             due.is("make(" + m + ")", x.make(m), m);
         }
@@ -486,10 +477,10 @@ public final class MomentTest {
         BallCourt x = new BallCourt();
         x.line(1, 0, 1);
         x.line(0, 8, 2);
-        momentOf(x, 3);
-        momentOf(x, 5);
-        momentOf(x, 8);
-        momentOf(x, 2);
+        Courts.momentOf(x, 3);
+        Courts.momentOf(x, 5);
+        Courts.momentOf(x, 8);
+        Courts.momentOf(x, 2);
         x.make(0);
         x.make(1);
         x.make(1);
@@ -510,9 +501,9 @@ public final class MomentTest {
         BallCourt x = new BallCourt();
         x.line(1, 0, 1);
         x.line(2, 0, 2);
-        momentOf(x, 1);
-        momentOf(x, 3);
-        momentOf(x, 2);
+        Courts.momentOf(x, 1);
+        Courts.momentOf(x, 3);
+        Courts.momentOf(x, 2);
         x.moment();
         x.tell(3, 0, 0, 1);
         due.is("mend(0, 2)", x.mend(0, 2), 3);
