@@ -545,12 +545,24 @@ final class PlainCourt {
         return NONE;
     }
 
-    int told(int what) {
+    private int covered() {
         int covered = 0;
         for (int kind : kinds()) {
             covered += theLaw(kind) == null ? 0 : 1;
         }
-        int[] all = {f, kinds().size(), lines.size(), moments.size(), cases.size(), goal, covered};
-        return what < 0 || what > 6 ? OUTSIDE : all[what];
+        return covered;
+    }
+
+    int told(int what) {
+        return switch (what) {
+            case 0 -> f;
+            case 1 -> kinds().size();
+            case 2 -> lines.size();
+            case 3 -> moments.size();
+            case 4 -> cases.size();
+            case 5 -> goal;
+            case 6 -> covered();
+            default -> OUTSIDE;
+        };
     }
 }
